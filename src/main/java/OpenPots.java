@@ -1,7 +1,7 @@
 /**
  * Works that need things, and the orders of them in which the fewest things lie open at once.
  *
- * All rows are made with the object and used again, so that no call after the first makes anything.
+ * All rows are made with the object and used again, so that no call makes anything.
  */
 public final class OpenPots {
     public static final int UNKNOWN = -1, OUTSIDE = -2, STATE = -3, FULL = -4, NONE = -9;
@@ -358,11 +358,11 @@ public final class OpenPots {
     }
 
     public int without(int w) {
-        return works.has(w) ? mostWithout(w) : UNKNOWN;
+        return works.has(w) ? mostWithout(w, FAR) : UNKNOWN;
     }
 
-    private int mostWithout(int w) {
-        return aside.leastMost(works.all() & ~(1 << w), FAR);
+    private int mostWithout(int w, int limit) {
+        return aside.leastMost(works.all() & ~(1 << w), limit);
     }
 
     public int why(int w, int other) {
@@ -376,7 +376,7 @@ public final class OpenPots {
         int found = NONE;
         int least = FAR;
         for (int w = 0; w < works.count; w++) {
-            int most = mostWithout(w);
+            int most = mostWithout(w, least);
             if (most < least) {
                 least = most;
                 found = w;
