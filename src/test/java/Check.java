@@ -2,20 +2,51 @@
 final class Check {
     private int asked;
     private int wrong;
+    private int sentences;
+    private int askedOfSentence = 1;
+    private String sentence = "";
+
+    /**
+     * From here on answers hold the class to these words of the document: of a promise by its number, 0 for what
+     * stands ahead of the promises. SentencesTest looks whether the words are there, and whether all are held to.
+     */
+    void says(int promise, String words) {
+        endSentence();
+        sentences++;
+        askedOfSentence = 0;
+        sentence = "[" + promise + ": " + words + "] ";
+    }
 
     void due(String call, long got, long want) {
         asked++;
+        askedOfSentence++;
         if (got != want) {
             wrong++;
-            System.out.println(call + " answered " + got + ", due is " + want);
+            System.out.println(sentence + call + " answered " + got + ", due is " + want);
+        }
+    }
+
+    private void endSentence() {
+        if (askedOfSentence == 0) {
+            wrong++;
+            System.out.println(sentence + "nothing was asked");
         }
     }
 
     void end() {
-        System.out.println(asked + " answers, " + wrong + " not as due");
+        endSentence();
+        String ofSentences = sentences == 0 ? "" : " to " + sentences + " sentences";
+        System.out.println(asked + " answers" + ofSentences + ", " + wrong + " not as due");
         if (wrong != 0 || asked == 0) {
             System.exit(1);
         }
+    }
+
+    /** A new object whose shop is by this text. */
+    static OpenPots shopOf(String text) {
+        OpenPots x = new OpenPots();
+        shop(x, text);
+        return x;
     }
 
     /** Puts a text as bytes on SHEET 3 and lets the shop take it. */

@@ -67,17 +67,26 @@ public final class LanguageTest {
             CHECK.due(field.getName(), isPublic || Modifier.isPrivate(field.getModifiers()) ? 1 : 0, 1);
         }
         for (Class<?> inside : OpenPots.class.getDeclaredClasses()) {
-            int fields = 0;
-            for (Field field : inside.getDeclaredFields()) {
-                boolean isStatic = Modifier.isStatic(field.getModifiers());
-                CHECK.due("static " + field.getName(), isStatic && !Modifier.isFinal(field.getModifiers()) ? 1 : 0, 0);
-                fields += isStatic ? 0 : 1;
-            }
-            CHECK.due(inside.getName() + " has too many fields", fields > 20 ? 1 : 0, 0);
+            measures(inside);
+            CHECK.due(inside.getName() + " is static", Modifier.isStatic(inside.getModifiers()) ? 1 : 0, 1);
             for (Method method : inside.getDeclaredMethods()) {
                 CHECK.due(method.getName() + " bears no public name", FACE.contains(method.getName()) ? 1 : 0, 0);
-                CHECK.due(method.getName() + " takes too much", method.getParameterCount() > 7 ? 1 : 0, 0);
             }
+        }
+        measures(OpenPots.class);
+    }
+
+    /** Rules 5 and 11: no static state, twenty fields, seven parameters. */
+    private static void measures(Class<?> one) {
+        int fields = 0;
+        for (Field field : one.getDeclaredFields()) {
+            boolean isStatic = Modifier.isStatic(field.getModifiers());
+            CHECK.due("static " + field.getName(), isStatic && !Modifier.isFinal(field.getModifiers()) ? 1 : 0, 0);
+            fields += isStatic ? 0 : 1;
+        }
+        CHECK.due(one.getName() + " has too many fields", fields > 20 ? 1 : 0, 0);
+        for (Method method : one.getDeclaredMethods()) {
+            CHECK.due(method.getName() + " takes too much", method.getParameterCount() > 7 ? 1 : 0, 0);
         }
     }
 
