@@ -4,7 +4,9 @@ import java.lang.reflect.Modifier;
 import java.nio.file.Files;
 import java.nio.file.Path;
 import java.util.List;
+import java.util.Map;
 import java.util.Set;
+import java.util.TreeMap;
 import java.util.TreeSet;
 import java.util.regex.Matcher;
 import java.util.regex.Pattern;
@@ -90,18 +92,31 @@ public final class LanguageTest {
         }
     }
 
+    /** Rules 8 and 11: no method is long, none calls itself by whatever way, and calls go at most eight deep. */
     private static void methods(String code) {
-        int begun = -1;
-        String[] lines = code.split("\n");
-        for (int k = 0; k < lines.length; k++) {
-            if (lines[k].matches("( {4}| {8})[\\w\\[\\] ]+\\([^;]*\\) \\{")) {
-                begun = k;
-            }
-            if (begun >= 0 && lines[k].matches("( {4}| {8})}")) {
-                CHECK.due("'" + lines[begun].trim() + "' is too long", k - begun > 60 ? 1 : 0, 0);
-                begun = -1;
+        Map<String, String> bodies = new TreeMap<>();
+        Matcher found = Pattern.compile("(?m)^( {4}| {8})(?!(?:if|for|while|switch) )(?:[\\w\\[\\]]+ )*(\\w+)\\([^;{]*\\) \\{"
+                + "\n((?s:.*?))^\\1}$").matcher(code);
+        while (found.find()) {
+            CHECK.due(found.group(2) + " is too long", count(found.group(3), "\n") > 60 ? 1 : 0, 0);
+            bodies.merge(found.group(2), found.group(3), String::concat);
+        }
+        CHECK.due("all of the face is read", bodies.keySet().containsAll(FACE) ? 1 : 0, 1);
+        for (String name : bodies.keySet()) {
+            CHECK.due(name + " calls too deep", depth(name, bodies, 0) > 8 ? 1 : 0, 0);
+        }
+    }
+
+    /** Methods of one name count as one, so it is never less than it is; ten are too many, be it that one is come to again. */
+    private static int depth(String name, Map<String, String> bodies, int above) {
+        int deepest = 0;
+        Matcher call = Pattern.compile("(?<!new )\\b(\\w+)\\(").matcher(bodies.get(name));
+        while (above < 9 && call.find()) {
+            if (bodies.containsKey(call.group(1))) {
+                deepest = Math.max(deepest, depth(call.group(1), bodies, above + 1));
             }
         }
+        return deepest + 1;
     }
 
     private static int count(String code, String pattern) {
